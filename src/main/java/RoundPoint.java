@@ -982,7 +982,6 @@ public final class RoundPoint {
 
         /** The last MINUTE, dawn or later, at which one can start and REACH the goal by dark: back from the end. */
         int latest(int from, int goal) {
-            Arrays.fill(states, 0L);
             Arrays.fill(above, coast.dark + 1);
             for (int m = coast.dark; m >= coast.dawn; m--) {
                 long good = 15L << 4 * goal;

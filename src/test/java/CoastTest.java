@@ -96,7 +96,11 @@ public final class CoastTest {
         fault("5:1;5", 5);
         fault("5:1;5x", 5);
         fault("500:1;14", 8);
+        fault("1438:1;143", 10);
+        fault("1438:1;144", 7);
         fault("1439:1;5:1", 7);
+        fault("1439:1;1", 7);
+        fault("1439:1;", 7);
         fault("0:1;1:1;2:1;3:1;4:1;5:1;6:1;7:1;8:1;9:1;10:1;11:1;", 49);
         fault("0:1;1:1;2:1;3:1;4:1;5:1;6:1;7:1;8:1;9:1;10:1;11:1x", 49);
     }
@@ -261,6 +265,8 @@ public final class CoastTest {
         Due.is("11 just time enough", x.last(1, 0, 1), 690);
         Due.is("11 dawn once more", x.light(0, 691), 690);
         Due.is("11 too late", x.last(1, 0, 1), RoundPoint.NOT);
+        Due.is("11 dawn as dark", x.light(0, 700), 691);
+        Due.is("11 dark as dawn", x.light(1, 700), 700);
         Due.is("11 no change to undo", x.count(7), 0);
     }
 
@@ -270,8 +276,11 @@ public final class CoastTest {
         Due.is("12 even", x.takes(0, 0, 0), 33);
         Due.is("12 up", x.takes(0, 0, 1), 37);
         Due.is("12 up again", x.takes(0, 1, 0), 27);
+        x.way(1, 1005);
+        x.sort(2, 101);
+        Due.is("12 up by a hundredth", x.takes(1, 2, 0), 2);
         Due.is("12 weariest", x.takes(0, 3, 3), 109);
-        Due.is("12 no such way", x.takes(1, 0, 0), RoundPoint.BAD);
+        Due.is("12 no such way", x.takes(2, 0, 0), RoundPoint.BAD);
         Due.is("12 nor below", x.takes(-1, 0, 0), RoundPoint.BAD);
         Due.is("12 no such sort", x.takes(0, 4, 0), RoundPoint.BAD);
         Due.is("12 sort below", x.takes(0, -1, 0), RoundPoint.BAD);

@@ -15,7 +15,7 @@ public final class ModelTest {
     }
 
     public static void main(String[] args) {
-        int runs = args.length > 0 ? Integer.parseInt(args[0]) : 60;
+        int runs = args.length > 0 ? Integer.parseInt(args[0]) : 40;
         int first = args.length > 1 ? Integer.parseInt(args[1]) : 1;
         for (int i = first; i < first + runs; i++) {
             seed = 1000003L * i + 17;

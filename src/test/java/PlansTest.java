@@ -20,6 +20,9 @@ public final class PlansTest {
         undoing();
         changesTold();
         fortyKept();
+        fortyOfAll();
+        elsewhere();
+        lastOfTenTides();
         Due.end();
     }
 
@@ -351,5 +354,96 @@ public final class PlansTest {
             Due.is("32 of forty", x.redo(), left);
         }
         Due.is("32 the latest", x.safe(0, 45), 45);
+    }
+
+    private static void fortyOfAll() {
+        RoundPoint x = coast();
+        x.safe(1, 1);
+        for (int v = 1; v <= 9; v++) {
+            x.alter(0, 0, 100 + v);
+            x.alter(1, 1, v);
+            x.alter(1, 2, 1000 + v);
+            x.safe(2, v);
+            x.sort(3, 300 + v);
+        }
+        Due.is("31 forty of forty-six", x.count(7), 40);
+        for (int left = 39; left >= 0; left--) {
+            Due.is("31 of all, left", x.undo(), left);
+        }
+        Due.is("31 height", x.alter(0, 0, 101), 101);
+        Due.is("31 first hour", x.alter(1, 1, 1), 1);
+        Due.is("31 last hour", x.alter(1, 2, 1001), 1001);
+        Due.is("31 safe", x.safe(2, 1), 1);
+        Due.is("31 hundredths", x.sort(3, 301), 301);
+        Due.is("31 the first of all", x.safe(1, 1), 1);
+        for (int left = 39; left >= 0; left--) {
+            Due.is("32 of all, left", x.redo(), left);
+        }
+        Due.is("32 height", x.alter(0, 0, 109), 109);
+        Due.is("32 first hour", x.alter(1, 1, 9), 9);
+        Due.is("32 last hour", x.alter(1, 2, 1009), 1009);
+        Due.is("32 safe", x.safe(2, 9), 9);
+        Due.is("32 hundredths", x.sort(3, 309), 309);
+    }
+
+    /** All once more on the second tide, by the second sort, between places 9, 10 and 11. */
+    private static void elsewhere() {
+        RoundPoint x = Shore.of("0:999", 0, 0, 0, 0, 0, 0, 0, 0, 0, 998, 40, 998);
+        Shore.tide(x, TENT);
+        x.way(910, 40100);
+        x.way(1110, 10998);
+        x.wind(1, 0, 2);
+        Shore.plan(x, 0, 1);
+        Due.is("25 elsewhere", x.judge(90000, 11, 0, 1), 41);
+        Due.is("25 elsewhere, the place", x.judge(90000, 11, 0, 2), 11);
+        Due.is("25 elsewhere shut", x.judge(90000, 10, 0, 0), 0);
+        Due.is("25 elsewhere in a wind", x.judge(90068, 11, 1, 0), 0);
+        Due.is("25 elsewhere back", x.judge(110000, 11, 1, 2), 11);
+        Due.is("27 elsewhere", x.chance(90068, 11), 333);
+        Due.is("27 elsewhere, by a slow one", x.chance(90068, 21), 0);
+        Due.is("27 elsewhere shut", x.chance(90068, 10), 0);
+        x.alter(1, 2, 0);
+        x.alter(0, 2, 30);
+        Due.is("26 elsewhere", x.wet(90000, 11, 0), 40);
+        Due.is("26 elsewhere in a wind", x.wet(90000, 11, 1), 39);
+        Due.is("26 elsewhere where it is wet", x.wet(100900, 11, 0), 900);
+        x.mark(90000);
+        x.mark(100032);
+        Due.is("29 elsewhere", x.old(11), 3);
+        Due.is("29 elsewhere by a slow one", x.old(21), 0);
+        x.mark(100040);
+        Due.is("29 elsewhere waiting", x.old(11), 1);
+        Due.is("29 elsewhere shut", x.old(10), 0);
+        x.mark(100041);
+        Due.is("29 elsewhere too wet", x.old(11), 0);
+    }
+
+    private static void lastOfTenTides() {
+        RoundPoint x = Shore.of("0:999", 998, 40, 998);
+        for (int tide = 1; tide < 9; tide++) {
+            Shore.tide(x, "0:999");
+        }
+        Shore.tide(x, TENT);
+        x.way(1, 40100);
+        x.way(201, 10998);
+        Shore.plan(x, 0, 1);
+        Due.is("25 tide 9", x.judge(0, 9, 0, 1), 51);
+        Due.is("25 the last of all", x.judge(0, 39, 0, 0), 0);
+        Due.is("25 a slow one", x.judge(0, 29, 0, 1), 76);
+        Due.is("27 tide 9", x.chance(60, 9), 1000);
+        Due.is("27 a slow one", x.chance(40, 29), 1000);
+        Due.is("27 a slow one later", x.chance(41, 29), 0);
+        Shore.plan(x, 1);
+        x.alter(1, 2, 0);
+        x.alter(0, 0, 80);
+        Due.is("26 tide 9", x.wet(10020, 9, 0), RoundPoint.NOT);
+        Due.is("26 a slow one", x.wet(10020, 29, 0), 40);
+        x.alter(0, 0, 100);
+        Due.is("26 a slow one, higher", x.wet(10020, 29, 0), RoundPoint.NOT);
+        x.alter(0, 0, 99);
+        Due.is("26 a slow one, too high by one", x.wet(10020, 29, 0), 40);
+        Shore.plan(x, 0, 140);
+        Due.is("26 a slow one there", x.wet(0, 29, 0), 60);
+        Due.is("26 tide 9 there", x.wet(0, 9, 0), RoundPoint.NOT);
     }
 }

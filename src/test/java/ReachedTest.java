@@ -15,6 +15,7 @@ public final class ReachedTest {
         soonInAllWinds();
         soonWrong();
         latest();
+        latestByWaiting();
         latestWrong();
         bestOfWinds();
         bestAmongLikes();
@@ -23,6 +24,9 @@ public final class ReachedTest {
         worthOfHours();
         worthOfHeight();
         mustWait();
+        elsewhere();
+        firstMinute();
+        lastOfTenTides();
         Due.end();
     }
 
@@ -89,6 +93,8 @@ public final class ReachedTest {
             Due.is("14 wearier by each way " + place, x.soon(0, place, 0, 1), due[place]);
         }
         Due.is("14 not by waiting", x.soon(300, 1, 0, 1), 350);
+        Due.is("15 wearier by each way", x.last(5, 0, 1), 1439 - 295);
+        Due.is("15 wearier by each way, back", x.last(501, 0, 1), 1439 - 230);
     }
 
     private static void soonWaiting() {
@@ -168,6 +174,30 @@ public final class ReachedTest {
         x.alter(1, 2, 70);
         Due.is("15 waiting where it is dry", x.last(201, 0, 1), 70);
         Due.is("15 from where it is wet, at once", x.last(102, 0, 1), 70);
+    }
+
+    private static void latestByWaiting() {
+        RoundPoint x = Shore.of(TENT, 40, 60, 999);
+        x.way(1, 10999);
+        x.way(102, 10999);
+        x.alter(0, 2, 20);
+        x.alter(1, 1, 60);
+        x.alter(1, 2, 65);
+        Due.is("15 waiting on the way", x.last(2, 0, 1), 20);
+        x.light(1, 71);
+        Due.is("15 waiting just till dark", x.last(2, 0, 1), 20);
+        x.light(1, 70);
+        Due.is("15 dark while waiting", x.last(2, 0, 1), RoundPoint.NOT);
+        x.light(1, 1439);
+        x.safe(1, 59);
+        Due.is("15 too wet to wait", x.last(2, 0, 1), RoundPoint.NOT);
+        x.safe(1, 60);
+        x.wind(1, 0, 1);
+        Due.is("15 too wet in the wind", x.last(2, 0, 2), RoundPoint.NOT);
+        x.alter(0, 2, 60);
+        Due.is("15 straight on", x.last(2, 0, 1), 55);
+        x.safe(1, 0);
+        Due.is("15 straight on, wet", x.last(2, 0, 3), 55);
     }
 
     private static void latestWrong() {
@@ -258,6 +288,10 @@ public final class ReachedTest {
         Shore.tide(x, "0:0;1200:600");
         Shore.tide(x, "0:0;1200:600");
         Due.is("17 three", x.days(1, 0, 0), 14);
+        x.alter(0, 0, 101);
+        Due.is("17 all four", x.days(1, 0, 0), 15);
+        Due.is("17 then the first", x.days(1, 0, 1), 0);
+        x.alter(0, 0, 100);
         Due.is("17 of like ones the first", x.days(1, 0, 1), 2);
         x.light(0, 100);
         Due.is("17 from dawn on", x.days(1, 0, 0), 12);
@@ -379,5 +413,82 @@ public final class ReachedTest {
         for (int[] w : wrong) {
             Due.is("21 wrong", x.must(w[0], w[1], w[2]), RoundPoint.BAD);
         }
+    }
+
+    /** All once more on the second tide, by the second sort, between places 9, 10 and 11. */
+    private static void elsewhere() {
+        RoundPoint x = Shore.of("0:999", 0, 0, 0, 0, 0, 0, 0, 0, 0, 998, 40, 998);
+        Shore.tide(x, TENT);
+        x.way(910, 40100);
+        x.way(1110, 10998);
+        x.alter(1, 1, 40);
+        Due.is("13 elsewhere", x.open(0, 11, 1, 2), 1407);
+        Due.is("13 elsewhere shut", x.open(0, 10, 1, 0), 0);
+        Due.is("14 elsewhere", x.soon(90000, 11, 11, 1), 49);
+        Due.is("14 elsewhere shut", x.soon(90000, 11, 10, 1), RoundPoint.NOT);
+        Due.is("15 elsewhere", x.last(911, 11, 1), 1439 - 32 - 9);
+        Due.is("15 elsewhere shut", x.last(911, 10, 1), RoundPoint.NOT);
+        x.light(1, 200);
+        Due.is("15 elsewhere ahead of dark", x.last(911, 11, 1), 68);
+        Due.is("15 elsewhere back", x.last(1109, 11, 1), 56);
+        Due.is("16 elsewhere", x.best(90068, 11, 11, 1), 1);
+        Due.is("16 elsewhere, too late", x.best(90069, 11, 11, 1), 0);
+        Due.is("17 elsewhere", x.days(911, 1, 0), 2);
+        Due.is("17 elsewhere, which", x.days(911, 1, 1), 1);
+        Due.is("17 elsewhere by another sort", x.days(1109, 3, 0), 0);
+        Due.is("18 elsewhere", x.two(90000, 110050, 11, 1, 0), 50);
+        Due.is("18 elsewhere, the place", x.two(90000, 110050, 11, 1, 1), 11);
+        Due.is("18 elsewhere, later", x.two(90057, 110001, 11, 1, 0), 84);
+        Due.is("18 elsewhere, later, the place", x.two(90057, 110001, 11, 1, 1), 9);
+        Due.is("19 elsewhere", x.worth(1, 90000, 11, 11), 8);
+        Due.is("20 elsewhere", x.higher(0, 90069, 10, 11), 1);
+        Due.is("20 elsewhere, ahead of the flood", x.higher(0, 90069, 11, 11), 1);
+        Due.is("21 elsewhere at either", x.must(90000, 11, 11), 0);
+        x.alter(0, 2, 7);
+        Due.is("21 elsewhere", x.must(90000, 11, 11), 1 << 10);
+        x.alter(0, 1, 7);
+        x.alter(1, 1, 39);
+        x.alter(1, 2, 39);
+        Due.is("21 elsewhere, from the start", x.must(90000, 11, 11), 1 << 9);
+        x.alter(0, 2, 68);
+        x.alter(0, 1, 68);
+        x.alter(1, 2, 1439);
+        Due.is("20 elsewhere, its one minute", x.higher(0, 90068, 10, 11), RoundPoint.NOT);
+        x.alter(0, 0, 99);
+        Due.is("20 elsewhere, too low by one", x.higher(0, 90068, 10, 11), 1);
+        x.alter(0, 0, 89);
+        Due.is("20 elsewhere, too low by more", x.higher(0, 90068, 10, 11), 11);
+    }
+
+    private static void firstMinute() {
+        RoundPoint x = Shore.of("0:500;1:0", 999, 999);
+        x.way(1, 10100);
+        x.wind(0, -60, 1);
+        x.wind(0, 1, 1);
+        Due.is("13 not at the first minute", x.open(0, 0, 1, 1), 1);
+        Due.is("13 not for an hour", x.open(0, 0, 2, 1), 61);
+        Due.is("13 but a minute early", x.open(0, 0, 4, 1), 0);
+        Due.is("14 a minute's waiting", x.soon(0, 1, 0, 1), 11);
+        Due.is("14 an hour's waiting", x.soon(0, 1, 0, 2), 71);
+        Due.is("14 none", x.soon(0, 1, 0, 4), 10);
+        x.safe(0, 499);
+        Due.is("14 wet at the first minute", x.soon(0, 1, 0, 1), RoundPoint.NOT);
+    }
+
+    private static void lastOfTenTides() {
+        RoundPoint x = Shore.of("0:999", 999, 999);
+        for (int tide = 1; tide < 9; tide++) {
+            Shore.tide(x, "0:999");
+        }
+        Shore.tide(x, TENT);
+        x.way(1, 40100);
+        Due.is("13 tide 9", x.open(0, 9, 1, 2), 1399);
+        Due.is("13 tide 9, the slowest", x.open(0, 39, 1, 2), 1319);
+        Due.is("14 tide 9", x.soon(0, 1, 9, 1), 40);
+        Due.is("14 tide 9, a slow one", x.soon(0, 1, 29, 1), 60);
+        Due.is("14 tide 8", x.soon(0, 1, 8, 1), RoundPoint.NOT);
+        Due.is("15 tide 9", x.last(1, 19, 1), 1407);
+        Due.is("17 the tenth", x.days(1, 3, 0), 512);
+        Due.is("17 it", x.days(1, 3, 1), 9);
     }
 }
