@@ -110,6 +110,8 @@ public final class CoastTest {
         Due.is("3 twelve points", Shore.tide(x, "0:1;1:2;2:3;3:4;4:5;5:6;6:7;7:8;8:9;9:10;10:11;11:12"), 0);
         Due.is("3 the last of them", x.sea(0, 0, 11), 12);
         Due.is("3 nothing is left", x.count(4), 0);
+        Due.is("3 of the text ahead nothing is read", Shore.tide(x, "0"), -101);
+        Due.is("3 nor here", Shore.tide(x, "0:"), -102);
         Due.is("3 noughts ahead", Shore.tide(x, "0005:007;1439:999"), 1);
         Due.is("3 read so", x.sea(1, 0, 5), 7);
         for (int tide = 2; tide < 10; tide++) {
