@@ -651,19 +651,16 @@ public final class RoundPoint {
         /** Reads a MINUTE and its colon. */
         private int readMinute(int before) {
             int first = at;
-            int value = 0;
-            for (int more = MINUTE_DIGITS - 1; more >= 0 && digitIsNext(); more--) {
-                value = value * 10 + bytes[at] - '0';
-                if (!mayRise(value, more, before)) {
-                    return first;
-                }
-                at++;
-            }
-            if (at == first || at >= length || bytes[at] != ':') {
+            int value = readNumber(MINUTE_DIGITS);
+            if (at == first) {
                 return at;
             }
-            if (value <= before) {
+            // The MINUTE is what its digits say: that more of them might have made it rise does not help it.
+            if (value <= before || value > LAST_MINUTE) {
                 return first;
+            }
+            if (at >= length || bytes[at] != ':') {
+                return at;
             }
             at++;
             minutes[points] = value;
@@ -672,31 +669,22 @@ public final class RoundPoint {
 
         private int readHeight() {
             int first = at;
+            heights[points] = readNumber(HEIGHT_DIGITS);
+            return at == first ? at : NO_FAULT;
+        }
+
+        /** Reads digits, so many at most; where there is none, it stays where it is. */
+        private int readNumber(int most) {
             int value = 0;
-            for (int digits = 0; digits < HEIGHT_DIGITS && digitIsNext(); digits++) {
+            for (int digits = 0; digits < most && digitIsNext(); digits++) {
                 value = value * 10 + bytes[at] - '0';
                 at++;
             }
-            heights[points] = value;
-            return at == first ? at : NO_FAULT;
+            return value;
         }
 
         private boolean digitIsNext() {
             return at < length && bytes[at] >= '0' && bytes[at] <= '9';
-        }
-
-        /** Whether with up to so many more digits the value becomes a MINUTE behind the one before. */
-        private static boolean mayRise(int value, int more, int before) {
-            int low = value;
-            int high = value;
-            for (int i = 0; i <= more; i++) {
-                if (before < LAST_MINUTE && low <= LAST_MINUTE && high > before) {
-                    return true;
-                }
-                low = low * 10;
-                high = high * 10 + 9;
-            }
-            return false;
         }
     }
 

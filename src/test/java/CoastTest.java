@@ -7,6 +7,7 @@ public final class CoastTest {
         newObject();
         feeding();
         faults();
+        faultsOfAllShortTexts();
         tides();
         winds();
         seaBetweenPoints();
@@ -82,27 +83,63 @@ public final class CoastTest {
         fault(":1", 0);
         fault("00005:1", 4);
         fault("12345:1", 4);
-        // a MINUTE above 1439: its first digit, as soon as nothing else can become of it
+        // a MINUTE above 1439: its first digit
         fault("1440:1", 0);
+        fault("1440", 0);
+        fault("1440x", 0);
         fault("9999", 0);
+        fault("14405:1", 0);
         fault("5:1;1500:1", 4);
-        // one that does not rise
+        // one that does not rise: its first digit too, whatever stands or fails to stand behind it
         fault("5:1;5:2", 4);
         fault("5:1;4:2", 4);
         fault("5:1;0005", 4);
+        fault("6:6;5", 4);
+        fault("6:6;6", 4);
+        fault("6:6;0", 4);
+        fault("6:6;5x", 4);
+        fault("6:6;5;", 4);
+        fault("6:6;5:", 4);
+        fault("6:6;00012:1", 4);
         fault("500:1;3", 6);
+        fault("500:1;14", 6);
         fault("500:1;15", 6);
-        // .. but it may still rise here
-        fault("5:1;5", 5);
-        fault("5:1;5x", 5);
-        fault("500:1;14", 8);
-        fault("1438:1;143", 10);
+        fault("500:1;500", 6);
+        fault("1438:1;143", 7);
         fault("1438:1;144", 7);
+        fault("10:1;20:2;15", 10);
+        // one that rises goes on to the end or to the wrong byte
+        fault("6:6;7", 5);
+        fault("6:6;7x", 5);
+        fault("6:6;50", 6);
+        fault("6:6;12345", 8);
+        fault("500:1;501", 9);
+        fault("1438:1;1439", 11);
         fault("1439:1;5:1", 7);
         fault("1439:1;1", 7);
         fault("1439:1;", 7);
         fault("0:1;1:1;2:1;3:1;4:1;5:1;6:1;7:1;8:1;9:1;10:1;11:1;", 49);
         fault("0:1;1:1;2:1;3:1;4:1;5:1;6:1;7:1;8:1;9:1;10:1;11:1x", 49);
+    }
+
+    /** Every text of up to six of these signs, behind a point and without one. */
+    private static void faultsOfAllShortTexts() {
+        String signs = "0159:;x";
+        RoundPoint x = new RoundPoint();
+        for (int size = 0; size <= 6; size++) {
+            int texts = (int) Math.pow(signs.length(), size);
+            for (int n = 0; n < texts; n++) {
+                StringBuilder text = new StringBuilder(n % 2 == 0 ? "" : "51:9;");
+                for (int rest = n, i = 0; i < size; i++, rest /= signs.length()) {
+                    text.append(signs.charAt(rest % signs.length()));
+                }
+                int due = PlainModel.faultOf(text.toString());
+                if (x.count(0) == 10) {
+                    x = new RoundPoint();
+                }
+                Due.is("3 of " + text, Shore.tide(x, text.toString()), due >= 0 ? -100 - due : x.count(0) - 1);
+            }
+        }
     }
 
     private static void tides() {

@@ -178,48 +178,25 @@ final class PlainModel {
         return tides.size() - 1;
     }
 
-    /** -1: none. Tries each longer and longer beginning: does any text go on with it? */
+    /** -1: none. Point by point: what each one lacks, and where. */
     static int faultOf(String text) {
-        for (int end = 1; end <= text.length(); end++) {
-            if (!goesOn(text.substring(0, end))) {
-                String point = text.substring(0, end);
-                point = point.substring(point.lastIndexOf(';', end - 2) + 1);
-                boolean minuteIsWrong = point.matches("[0-9]{1,4}:?") && goesOnAtAll(text, end, point);
-                return minuteIsWrong ? end - point.length() : end - 1;
-            }
-        }
-        return text.matches("(.*;)?[0-9]{1,4}:[0-9]{1,3}") ? -1 : text.length();
-    }
-
-    /** Whether the byte at which it fails is of the right form, so that only the MINUTE's worth can be wrong. */
-    private static boolean goesOnAtAll(String text, int end, String point) {
-        return Character.isDigit(text.charAt(end - 1)) || text.charAt(end - 1) == ':' && point.length() > 1;
-    }
-
-    private static boolean goesOn(String beginning) {
-        String[] points = beginning.split(";", -1);
-        if (points.length > 12) return false;
+        String[] points = text.split(";", -1);
         int before = -1;
+        int start = 0;
         for (int i = 0; i < points.length; i++) {
-            boolean latest = i == points.length - 1;
-            String p = points[i];
-            if (latest && p.matches("[0-9]{0,4}")) return p.isEmpty() || canBecomeMore(p, before);
-            if (!p.matches(latest ? "[0-9]{1,4}:[0-9]{0,3}" : "[0-9]{1,4}:[0-9]{1,3}")) return false;
-            int minute = Integer.parseInt(p.substring(0, p.indexOf(':')));
-            if (minute <= before || minute > 1439) return false;
-            before = minute;
+            if (i == 12) return start - 1;
+            String minute = points[i].replaceFirst("(?s)^([0-9]{0,4}).*", "$1");
+            if (minute.isEmpty()) return start;
+            if (Integer.parseInt(minute) <= before || Integer.parseInt(minute) > 1439) return start;
+            before = Integer.parseInt(minute);
+            String rest = points[i].substring(minute.length());
+            int at = start + minute.length();
+            if (!rest.startsWith(":")) return at;
+            if (!rest.matches("(?s):[0-9].*")) return at + 1;
+            if (!rest.matches(":[0-9]{1,3}")) return at + rest.replaceFirst("(?s)^(:[0-9]{1,3}).*", "$1").length();
+            start += points[i].length() + 1;
         }
-        return true;
-    }
-
-    private static boolean canBecomeMore(String digits, int before) {
-        int value = Integer.parseInt(digits);
-        if (value > before && value <= 1439) return true;
-        if (digits.length() == 4) return false;
-        for (int d = 0; d <= 9; d++) {
-            if (canBecomeMore(digits + d, before)) return true;
-        }
-        return false;
+        return -1;
     }
 
     int wind(int lifts, int early, int chance) {
