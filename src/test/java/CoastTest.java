@@ -134,7 +134,7 @@ public final class CoastTest {
                     text.append(signs.charAt(rest % signs.length()));
                 }
                 int due = PlainModel.faultOf(text.toString());
-                if (x.count(0) == 10) {
+                if (n % 50 == 0 || x.count(0) == 10) {
                     x = new RoundPoint();
                 }
                 Due.is("3 of " + text, Shore.tide(x, text.toString()), due >= 0 ? -100 - due : x.count(0) - 1);

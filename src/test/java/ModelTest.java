@@ -3,19 +3,21 @@
  * Arguments are mostly such as are there, some at the edge, some wrong.
  */
 public final class ModelTest {
-    private static final int CALLS = 500;
+    /** An object answers 512 calls; none of the steps here makes more than 40. */
+    private static final int LAST_STEP_AT = 512 - 40;
 
     private static long seed;
     private static RoundPoint x;
     private static PlainModel y;
     private static String run;
+    private static int calls; // made of x
     private static boolean chained; // a chain of high places between ways that a great tide shuts for hours
 
     private ModelTest() {
     }
 
     public static void main(String[] args) {
-        int runs = args.length > 0 ? Integer.parseInt(args[0]) : 40;
+        int runs = args.length > 0 ? Integer.parseInt(args[0]) : 200;
         int first = args.length > 1 ? Integer.parseInt(args[1]) : 1;
         for (int i = first; i < first + runs; i++) {
             seed = 1000003L * i + 17;
@@ -23,9 +25,10 @@ public final class ModelTest {
             x = new RoundPoint();
             y = new PlainModel();
             chained = i % 3 != 0;
-            int calls = coast();
-            while (calls++ < CALLS) {
-                oneCall(calls);
+            calls = 0;
+            coast();
+            while (calls < LAST_STEP_AT) {
+                oneStep();
             }
         }
         Due.end();
@@ -54,6 +57,7 @@ public final class ModelTest {
     }
 
     private static void same(String call, long got, long due) {
+        calls++;
         Due.is(run + call, got, due);
     }
 
@@ -86,76 +90,66 @@ public final class ModelTest {
         return s.toString();
     }
 
-    private static int tell(String text) {
-        int calls = 0;
+    private static void tell(String text) {
         for (int i = 0; i < text.length(); i += 4) {
             int n = Math.min(4, text.length() - i);
             int v = 0;
             for (int k = n - 1; k >= 0; k--) v = v << 8 | text.charAt(i + k);
             same("feed", x.feed(n, v), y.feed(n, v));
-            calls++;
         }
         same("tide of " + text, x.tide(), y.tide());
-        return calls + 1;
     }
 
-    private static int coast() {
-        int calls = 0;
-        for (int i = from(1, 3); i > 0; i--) calls += tell(tideText());
+    private static void coast() {
+        for (int i = from(1, 3); i > 0; i--) tell(tideText());
         for (int i = upTo(4); i > 0; i--) {
             int lifts = chained ? from(-20, 30) : from(-40, 60);
             int early = from(-60, 60);
             int chance = from(1, 9);
             same("wind", x.wind(lifts, early, chance), y.wind(lifts, early, chance));
-            calls++;
         }
         int places = from(3, 8);
         for (int i = 0; i < places; i++) {
             int safe = chained && !oneIn(4) ? from(280, 400) : from(80, 400);
             same("place", x.place(safe), y.place(safe));
-            calls++;
         }
         for (int i = chained ? from(places, 2 * places) : from(4, 16); i > 0; i--) {
             int one = upTo(places);
             int ft = chained && !oneIn(5) ? 101 * one + (oneIn(2) ? 1 : 100) : 100 * one + upTo(places);
             int mh = 1000 * from(1, chained ? 60 : 90) + (chained ? from(110, 240) : from(60, 400));
             same("way", x.way(ft, mh), y.way(ft, mh));
-            calls++;
         }
-        return chained ? calls + hours() : calls;
+        if (chained) hours();
     }
 
-    private static int hours() {
-        int calls = 0;
-        for (int way = 0; way < x.count(3); way++) {
+    private static void hours() {
+        for (int way = 0; way < y.count(3); way++) {
             if (oneIn(2)) {
                 int first = from(100, 900);
                 int last = Math.min(1439, first + from(20, 500));
                 same("alter", x.alter(way, 2, last), y.alter(way, 2, last));
                 same("alter", x.alter(way, 1, first), y.alter(way, 1, first));
-                calls += 2;
             }
         }
-        return calls;
     }
 
     private static int st() {
-        return oneIn(30) ? from(-11, 50) : 10 * upTo(4) + upTo(Math.max(1, x.count(0)));
+        return oneIn(30) ? from(-11, 50) : 10 * upTo(4) + upTo(Math.max(1, y.count(0)));
     }
 
     private static int fm() {
-        return oneIn(30) ? near(130000) : 10000 * near(x.count(2)) + near(oneIn(3) ? 300 : 1440);
+        return oneIn(30) ? near(130000) : 10000 * near(y.count(2)) + near(oneIn(3) ? 300 : 1440);
     }
 
     private static int ft() {
-        return 100 * near(x.count(2)) + near(x.count(2));
+        return 100 * near(y.count(2)) + near(y.count(2));
     }
 
     private static int winds() {
-        return oneIn(30) ? near(33) : from(1, (1 << x.count(1)) - 1);
+        return oneIn(30) ? near(33) : from(1, (1 << y.count(1)) - 1);
     }
 
-    private static void oneCall(int call) {
+    private static void oneStep() {
         switch (upTo(10)) {
             case 0: case 1: coastCall(); break;
             case 2: case 3: reachedCall(); break;
@@ -167,7 +161,7 @@ public final class ModelTest {
     }
 
     private static void coastCall() {
-        int a = near(x.count(3));
+        int a = near(y.count(3));
         int b = near(5);
         int v = near(oneIn(2) ? 1440 : 1000);
         switch (upTo(12)) {
@@ -186,8 +180,8 @@ public final class ModelTest {
     }
 
     private static void sea(int minute) {
-        int tide = near(x.count(0));
-        int wind = near(x.count(1));
+        int tide = near(y.count(0));
+        int wind = near(y.count(1));
         same("sea " + tide + " " + wind + " " + minute, x.sea(tide, wind, minute), y.sea(tide, wind, minute));
     }
 
@@ -207,13 +201,13 @@ public final class ModelTest {
     }
 
     private static void safe() {
-        int place = near(x.count(2));
+        int place = near(y.count(2));
         int v = oneIn(20) ? near(1001) : from(80, 400);
         same("safe", x.safe(place, v), y.safe(place, v));
     }
 
     private static void alter() {
-        int way = near(x.count(3));
+        int way = near(y.count(3));
         int what = near(3);
         int v = what == 0 && !oneIn(10) ? from(110, 260) : what == 1 ? near(700) : 1439 - near(700);
         same("alter " + way + " " + what + " " + v, x.alter(way, what, v), y.alter(way, what, v));
@@ -230,10 +224,10 @@ public final class ModelTest {
         int other = fm();
         int ft = ft();
         int place = fm / 10000;
-        int to = !chained || oneIn(3) ? near(x.count(2)) : oneIn(2) ? place + from(1, 2) : Math.abs(place - from(1, 2));
+        int to = !chained || oneIn(3) ? near(y.count(2)) : oneIn(2) ? place + from(1, 2) : Math.abs(place - from(1, 2));
         int st = st();
         int set = winds();
-        int way = near(x.count(3));
+        int way = near(y.count(3));
         int what = near(2);
         String with = " " + fm + " " + to + " " + st + " " + set + " " + what;
         switch (upTo(9)) {
@@ -254,11 +248,11 @@ public final class ModelTest {
     private static void planCall() {
         int fm = fm();
         int st = st();
-        int wind = near(x.count(1));
+        int wind = near(y.count(1));
         int what = near(3);
         switch (upTo(13)) {
             case 0: case 1: case 2: {
-                int v = oneIn(3) ? near(341) : oneIn(3) ? from(101, 200) : near(x.count(3));
+                int v = oneIn(3) ? near(341) : oneIn(3) ? from(101, 200) : near(y.count(3));
                 same("move " + v, x.move(v), y.move(v));
                 break;
             }
@@ -283,7 +277,7 @@ public final class ModelTest {
     private static void actCall() {
         int shelf = near(oneIn(4) ? 6 : 2);
         int other = near(oneIn(4) ? 6 : 2);
-        int body = near(x.count(8));
+        int body = near(y.count(8));
         int i = near(14);
         int j = near(14);
         switch (upTo(9)) {
@@ -320,6 +314,6 @@ public final class ModelTest {
         int act = near(4);
         int v = oneIn(3) ? (int) seed : from(-20, 20);
         same("act " + body + " " + act + " " + v, x.act(body, act, v), y.act(body, act, v));
-        for (int i = -1; i < 25; i++) same("trace " + i, x.trace(i), y.trace(i));
+        for (int i = -1; i <= y.count(9); i++) same("trace " + i, x.trace(i), y.trace(i));
     }
 }
